@@ -338,17 +338,14 @@ public final class FoldedGroups {
                         continue;
                     }
                     edges++;
-                    if (!isTreeWay(v, code, t) && !isTreeWay(t, code ^ 1, v)) {
+                    // At most one way by a letter comes to a vertex, so the last letter tells the tree's way.
+                    if (codes[t] != code && codes[v] != (code ^ 1)) {
                         rank++;
                         items[v * WAYS + code] = rank;
                         items[t * WAYS + (code ^ 1)] = -rank;
                     }
                 }
             }
-        }
-
-        private boolean isTreeWay(int v, int code, int t) {
-            return parents[t] == v && codes[t] == code;
         }
 
         /** Where element k's own edge begins, as a place in the rows of ways and items. */

@@ -321,8 +321,8 @@ public final class PromisesTest {
 
     private static void meetOf64() {
         FoldedGroups x = new FoldedGroups(2);
-        countingGroup(x, 0, 1, 8);
-        countingGroup(x, 1, 2, 8);
+        countingGroup(x, 2, 0, 1, 8);
+        countingGroup(x, 2, 1, 2, 8);
         due("figure(0, 3)", x.figure(0, 3), 8);
         due("meet(2, 0, 1) of 64 pairs", x.meet(2, 0, 1), 64);
         due("figure(2, 3)", x.figure(2, 3), 64);
@@ -331,8 +331,8 @@ public final class PromisesTest {
         due("contains(0, 2)", x.contains(0, 2), true);
         due("contains(2, 0)", x.contains(2, 0), false);
         FoldedGroups y = new FoldedGroups(2);
-        countingGroup(y, 0, 1, 5);
-        countingGroup(y, 1, 2, 13);
+        countingGroup(y, 2, 0, 1, 5);
+        countingGroup(y, 2, 1, 2, 13);
         due("meet(0, 0, 1) of 65 pairs", y.meet(0, 0, 1), FULL);
         due("figure(0, 0) as before", y.figure(0, 0), 5);
     }
@@ -357,6 +357,7 @@ public final class PromisesTest {
             due("join(0, 0, " + no + ")", x.join(0, 0, no), NONE);
         }
         joinTo64();
+        joinOfMostEdges();
     }
 
     private static void joinTo64() {
@@ -370,6 +371,29 @@ public final class PromisesTest {
         due("join(3, 2, 0)", x.join(3, 2, 0), FULL);
         due("join(0, 0, 0) of two copies", x.join(0, 0, 0), FULL);
         due("figure(3, 0) as before", x.figure(3, 0), 60);
+    }
+
+    /** 64 vertices with all their ways, and a ring or another graph beside them. */
+    private static void joinOfMostEdges() {
+        FoldedGroups x = new FoldedGroups(3);
+        countingGroup(x, 3, 0, 1, 8);
+        countingGroup(x, 3, 1, 2, 8);
+        due("meet(0, 0, 1)", x.meet(0, 0, 1), 64);
+        due("figure(0, 1)", x.figure(0, 1), 192);
+        x.drop(2);
+        due("join(2, 0, 2)", x.join(2, 0, 2), 64);
+        type(x, 2);
+        due("generate(2) with 193 edges", x.generate(2), 8);
+        due("figure(2, 3)", x.figure(2, 3), 8);
+        x.drop(1);
+        generate(x, 1, 3);
+        generate(x, 1, 2);
+        generate(x, 1, 1);
+        due("join(3, 1, 0) with 195 edges", x.join(3, 1, 0), 1);
+        due("join(3, 0, 1) with 195 edges", x.join(3, 0, 1), 1);
+        x.drop(1);
+        generate(x, 1, 1);
+        due("join(3, 0, 1) with 193 edges", x.join(3, 0, 1), 8);
     }
 
     private static void member() {
@@ -561,7 +585,7 @@ public final class PromisesTest {
         due("1, without an index", x.normal(0), false);
         generate(x, 0, 2);
         due("all words", x.normal(0), true);
-        countingGroup(x, 1, 1, 3);
+        countingGroup(x, 2, 1, 1, 3);
         due("words in which 1 counts 3, 6, ..", x.normal(1), true);
         // index 3: 1 changes vertices 0 and 1, and 2 changes 0 and 2
         generate(x, 2, 1, 1);
@@ -577,6 +601,13 @@ public final class PromisesTest {
         generate(x, 3, -2, 1, -2);
         due("figure(3, 3)", x.figure(3, 3), 3);
         due("index 3, where 2 goes round", x.normal(3), false);
+        x.drop(3);
+        generate(x, 3, 2);
+        generate(x, 3, 1, 1, 1);
+        generate(x, 3, 1, 2, 1);
+        generate(x, 3, -1, 2, -1);
+        due("figure(3, 3)", x.figure(3, 3), 3);
+        due("index 3, where 1 goes round", x.normal(3), false);
         for (int no : NO_SUBGROUPS) {
             due("normal(" + no + ")", x.normal(no), false);
         }
@@ -599,17 +630,24 @@ public final class PromisesTest {
         }
     }
 
-    /** Of two letters: the words in which letter a counts, its inverse against it, a multiple of m. */
-    private static void countingGroup(FoldedGroups x, int s, int a, int m) {
+    /** The words in which letter a counts, its inverse against it, a multiple of m. */
+    private static void countingGroup(FoldedGroups x, int letters, int s, int a, int m) {
         generatePower(x, s, a, m);
         for (int i = -(m / 2); i <= m / 2; i++) {
-            int there = i < 0 ? -a : a;
-            typePower(x, there, Math.abs(i));
-            x.letter(3 - a);
-            for (int n = 0; n < Math.abs(i); n++) {
-                x.letter(-there);
+            for (int b = 1; b <= letters; b++) {
+                if (b != a) {
+                    typeMoved(x, i < 0 ? -a : a, Math.abs(i), b);
+                    x.generate(s);
+                }
             }
-            x.generate(s);
+        }
+    }
+
+    private static void typeMoved(FoldedGroups x, int a, int times, int b) {
+        typePower(x, a, times);
+        x.letter(b);
+        for (int n = 0; n < times; n++) {
+            x.letter(-a);
         }
     }
 
