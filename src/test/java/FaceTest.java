@@ -28,7 +28,21 @@ public final class FaceTest {
         }
         for (Method method : FoldedGroups.class.getDeclaredMethods()) {
             if (!Modifier.isPrivate(method.getModifiers())) {
-                found.add(method.getReturnType() + " " + method.getName() + "(" + types(method.getParameterTypes()) + ")");
+                found.add(method.getReturnType() + " " + method.getName()
+                    + "(" + types(method.getParameterTypes()) + ")");
+            }
+        }
+        for (Method method : FoldedGroups.class.getDeclaredMethods()) {
+            boolean hidden = Modifier.isPrivate(method.getModifiers());
+            if (hidden && FACE.stream().anyMatch(face -> face.contains(" " + method.getName() + "("))) {
+                System.out.println("a private method bears a public name: " + method.getName());
+                wrong = true;
+            }
+        }
+        for (Class<?> inside : FoldedGroups.class.getDeclaredClasses()) {
+            if (Modifier.isPublic(inside.getModifiers()) || !Modifier.isStatic(inside.getModifiers())) {
+                System.out.println("a class inside is public or not static: " + inside.getName());
+                wrong = true;
             }
         }
         if (wrong || !found.equals(FACE)) {

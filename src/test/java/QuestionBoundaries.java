@@ -3,6 +3,10 @@ public final class QuestionBoundaries {
     private static final int NONE = Run.NONE;
     private static final int MIN = Run.MIN;
     private static final int MAX = Run.MAX;
+    private static final String INDEX = "the number of vertices, when every one has ways by all 2 * N letters; "
+        + "0 otherwise.";
+    private static final String MOVED = "Whether for all words w of letters 1 .. N, w's inverse, a word of s, and w, "
+        + "put together, are a word of s, for all of its words";
 
     public static void main(String[] args) {
         memberOfEach();
@@ -405,7 +409,8 @@ public final class QuestionBoundaries {
     }
 
     private static void figureWhat() {
-        Run run = new Run(2, "how many vertices (what = 0) and edges (1) its graph has, how many elements its basis has (2)");
+        Run run = new Run(2,
+            "how many vertices (what = 0) and edges (1) its graph has, how many elements its basis has (2)");
         run.figuresAre(0, 1, 0, 0, 0);
         run.generate(1, 0, 1);
         run.figuresAre(0, 1, 1, 1, 0);
@@ -434,7 +439,7 @@ public final class QuestionBoundaries {
     }
 
     private static void figureIndex() {
-        Run run = new Run(2, "the number of vertices, when every one has ways by all 2 * N letters; 0 otherwise");
+        Run run = new Run(2, INDEX);
         // one edge is wanting, at the base and then at another vertex
         run.generate(2, 0, 1, 1);
         run.generate(2, 0, 1, 2, -1);
@@ -452,7 +457,7 @@ public final class QuestionBoundaries {
 
     private static void figureIndexOfOneLetter() {
         for (int letters = 1; letters <= 3; letters++) {
-            Run run = new Run(letters, "the number of vertices, when every one has ways by all 2 * N letters; 0 otherwise");
+            Run run = new Run(letters, INDEX);
             run.figuresAre(0, 1, 0, 0, 0);
             run.generate(24, 0, Run.power(1, 24));
             run.figuresAre(0, 24, 24, 1, letters == 1 ? 24 : 0);
@@ -466,13 +471,13 @@ public final class QuestionBoundaries {
     }
 
     private static void figureIndexOf64() {
-        Run run = new Run(2, "the number of vertices, when every one has ways by all 2 * N letters; 0 otherwise");
+        Run run = new Run(2, INDEX);
         run.counting(0, 1, 8);
         run.counting(1, 2, 8);
         run.due(64, "meet", 2, 0, 1);
         run.figuresAre(2, 64, 128, 65, 64);
         run.stays(64, "figure", 2, 3);
-        Run other = new Run(3, "the number of vertices, when every one has ways by all 2 * N letters; 0 otherwise");
+        Run other = new Run(3, INDEX);
         other.fill(0, 64);
         other.figuresAre(0, 64, 66, 3, 0);
     }
@@ -553,7 +558,7 @@ public final class QuestionBoundaries {
 
     private static void normalOfEmptyWordAlone() {
         for (int letters = 1; letters <= 3; letters++) {
-            Run run = new Run(letters, "are a word of s, for all of its words");
+            Run run = new Run(letters, MOVED);
             for (int s = 0; s < 4; s++) {
                 run.stays(1, "normal", s);
             }
@@ -566,7 +571,7 @@ public final class QuestionBoundaries {
 
     private static void normalOfAllWords() {
         for (int letters = 1; letters <= 3; letters++) {
-            Run run = new Run(letters, "are a word of s, for all of its words");
+            Run run = new Run(letters, MOVED);
             for (int x = 1; x <= letters; x++) {
                 run.generate(1, 3, x);
                 run.stays(x == letters ? 1 : 0, "normal", 3);
@@ -575,7 +580,7 @@ public final class QuestionBoundaries {
     }
 
     private static void normalWithoutIndex() {
-        Run run = new Run(2, "Whether for all words w of letters 1 .. N, w's inverse, a word of s, and w, put together");
+        Run run = new Run(2, MOVED);
         run.generate(2, 0, 1, 1);
         run.stays(0, "normal", 0);
         run.generate(2, 0, 2);
@@ -593,17 +598,17 @@ public final class QuestionBoundaries {
 
     private static void normalOfIndex() {
         for (int m = 1; m <= 5; m++) {
-            Run run = new Run(1, "Whether for all words w of letters 1 .. N, w's inverse, a word of s, and w, put together");
+            Run run = new Run(1, MOVED);
             run.type(Run.power(1, m));
             run.due(m, "generate", 0);
             run.stays(1, "normal", 0);
         }
         for (int m = 2; m <= 5; m++) {
-            Run run = new Run(2, "Whether for all words w of letters 1 .. N, w's inverse, a word of s, and w, put together");
+            Run run = new Run(2, MOVED);
             run.counting(0, 2, m);
             run.stays(1, "normal", 0);
         }
-        Run run = new Run(2, "Whether for all words w of letters 1 .. N, w's inverse, a word of s, and w, put together");
+        Run run = new Run(2, MOVED);
         // index 3: 1 changes vertices 0 and 1, 2 changes 0 and 2
         run.generate(2, 0, 1, 1);
         run.generate(3, 0, 2, 2);
@@ -617,7 +622,7 @@ public final class QuestionBoundaries {
     private static void normalForEachLetter() {
         for (int letters = 2; letters <= 3; letters++) {
             for (int round = 1; round <= letters; round++) {
-                Run run = new Run(letters, "Whether for all words w of letters 1 .. N");
+                Run run = new Run(letters, MOVED);
                 int changes = round % letters + 1;
                 run.generate(3, 0, round, round, round);
                 run.generate(3, 0, changes);
@@ -638,12 +643,12 @@ public final class QuestionBoundaries {
     }
 
     private static void normalOf64() {
-        Run run = new Run(2, "Whether for all words w of letters 1 .. N, w's inverse, a word of s, and w, put together");
+        Run run = new Run(2, MOVED);
         run.counting(0, 1, 8);
         run.counting(1, 2, 8);
         run.due(64, "meet", 2, 0, 1);
         run.stays(1, "normal", 2);
-        Run other = new Run(3, "Whether for all words w of letters 1 .. N, w's inverse, a word of s, and w, put together");
+        Run other = new Run(3, MOVED);
         other.fill(0, 64);
         other.stays(0, "normal", 0);
     }
@@ -658,7 +663,7 @@ public final class QuestionBoundaries {
         run.stays(1, "normal", 3);
     }
 
-    /** Subgroups 0 and 3 have the powers of 1 1 and 1 1 1, 1 and 2 the empty word alone; 1^6 is typed, which is in both. */
+    /** Subgroups 0 and 3 have the powers of 1 1 and of 1 1 1, 1 and 2 the empty word alone; 1^6, of both, is typed. */
     private static Run twoAndThree(String sentence) {
         Run run = new Run(2, sentence);
         run.generate(2, 0, 1, 1);

@@ -19,8 +19,11 @@ public final class TermsBoundaries {
         putTogether();
         inverse();
         emptyWordInAll();
+        inversesAndProducts();
         oneWayByEachLetter();
         baseWithOneWay();
+        comeToFromTheBase();
+        oneGraphForEach();
         numbered();
         numberedByVertex();
         tree();
@@ -81,7 +84,8 @@ public final class TermsBoundaries {
 
     /** LANGUAGE.md, rule 7: no call throws by itself or fails to end, for any arguments in any state. */
     private static void anyArguments() {
-        int[] values = {MIN, MIN + 1, -65, -25, -4, -3, -2, -1, 0, 1, 2, 3, 4, 23, 24, 25, 63, 64, 65, 129, MAX - 1, MAX};
+        int[] values = {
+            MIN, MIN + 1, -65, -25, -4, -3, -2, -1, 0, 1, 2, 3, 4, 23, 24, 25, 63, 64, 65, 129, MAX - 1, MAX};
         for (int state = 0; state < 3; state++) {
             for (int a : values) {
                 for (int b : values) {
@@ -267,6 +271,21 @@ public final class TermsBoundaries {
         }
     }
 
+    private static void inversesAndProducts() {
+        Run run = new Run(2, "and with any words their inverses and what comes of putting them together");
+        run.generate(3, 0, 1, 2, 1);
+        run.generate(5, 0, 2, 1, 2);
+        int[][] words = {
+            {1, 2, 1}, {-1, -2, -1}, {1, 2, 1, 1, 2, 1}, {1, 2, 1, 2, 1, 2}, {1, 2, 1, -2, -1, -2}, {-2, -1, 2, 1}};
+        int[] in = {1, 1, 1, 1, 1, 0};
+        for (int n = 0; n < words.length; n++) {
+            run.type(words[n]);
+            run.due(in[n], "member", 0);
+            run.due(words[n].length, "invert");
+            run.due(in[n], "member", 0);
+        }
+    }
+
     private static void oneWayByEachLetter() {
         Run run = new Run(2, "From each vertex there is at most one way by each letter.");
         run.generate(3, 0, 1, 1, 2);
@@ -293,6 +312,43 @@ public final class TermsBoundaries {
         run.due(1, "invert");
         run.changes(1, 1, "conjugate", 1, 1);
         run.figuresAre(1, 1, 1, 1, 0);
+    }
+
+    private static void comeToFromTheBase() {
+        Run run = new Run(2, "Every vertex can be come to from the base");
+        run.generate(2, 0, 1, 1);
+        run.generate(2, 1, 1, 1);
+        // of the four pairs two can be come to
+        run.changes(2, 2, "meet", 2, 0, 1);
+        run.targetsAre(2, 0, 1, 1, NONE, NONE);
+        run.targetsAre(2, 1, 0, 0, NONE, NONE);
+        run.targetsAre(2, 2, NONE, NONE, NONE, NONE);
+        run.figuresAre(2, 2, 2, 1, 0);
+    }
+
+    private static void oneGraphForEach() {
+        Run run = new Run(2, "There is just one such graph for each subgroup that is made here.");
+        run.generate(2, 0, 1, 1);
+        run.generate(3, 0, 2, 2);
+        run.generate(3, 0, 1, 2, -1);
+        run.generate(2, 1, 1, -2, -1);
+        run.generate(3, 1, -2, -2);
+        run.generate(3, 1, 1, 2, -1, 2, 2, -1, -1);
+        run.type(1);
+        run.due(3, "conjugate", 2, 0);
+        run.due(1, "invert");
+        run.due(3, "conjugate", 2, 2);
+        run.due(3, "join", 3, 0, 1);
+        run.due(3, "meet", 3, 3, 2);
+        for (int s = 0; s < 4; s++) {
+            run.figuresAre(s, 3, 5, 3, 0);
+            run.targetsAre(s, 0, 1, 1, 2, 2);
+            run.targetsAre(s, 1, 0, 0, 1, 1);
+            run.targetsAre(s, 2, NONE, NONE, 0, 0);
+            run.elementIs(s, 0, 1, 1);
+            run.elementIs(s, 1, 1, 2, -1);
+            run.elementIs(s, 2, 2, 2);
+        }
     }
 
     private static void numbered() {
@@ -352,7 +408,8 @@ public final class TermsBoundaries {
     }
 
     private static void basisOrder() {
-        Run run = new Run(3, "for each vertex v, by number, and each letter x from 1 to N .. They are numbered from 0.");
+        Run run = new Run(3,
+            "for each vertex v, by number, and each letter x from 1 to N .. They are numbered from 0.");
         // index 2: 3 goes across, 1 and 2 are rings at both vertices
         run.generate(2, 0, 3, 3);
         run.generate(2, 0, 3, 2, -3);

@@ -78,7 +78,8 @@ public final class WordBoundaries {
     }
 
     private static void letterSize() {
-        Run run = new Run(2, "The typed word is put together with the word of one letter: how many letters it has then.");
+        Run run = new Run(2,
+            "The typed word is put together with the word of one letter: how many letters it has then.");
         run.types(1, "letter", -1);
         run.types(2, "letter", -1);
         run.types(3, "letter", 2);
